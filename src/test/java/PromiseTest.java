@@ -113,6 +113,7 @@ public final class PromiseTest {
         }
         due("add a 13th", x.add(0, 0, 0, 0), -6);
         due("count(0)", x.count(0), 12);
+        due("found on the last", new JealousByCalendar().add(0, 0, 0, 83), 0);
 
         promise = 5;
         int[][] keepsAndWeight = {{5, 1}, {12, 4}, {3, 6}, {0, 2}, {3, 19}, {27, 7}, {11, 7}, {24, 10}, {6, 18}, {0, 5}, {1, 11}, {19, 3}};
@@ -145,6 +146,8 @@ public final class PromiseTest {
         due("real on another weekday", x.cause(0, 8), 1);
         x.use(0);
         due("good though used", x.cause(0, 8), 1);
+        due("used", x.cause(0, 4), 1);
+        due("the figure", x.cause(0, 1), 9);
         for (int i = 0; i < 9; i++) x.end();
         due("used is never sour", x.cause(0, 7), 0);
     }
@@ -369,6 +372,12 @@ public final class PromiseTest {
         due("without", x.byHand(0, 83, 0), 9);
         due("first without", x.byHand(0, 83, 1), 21);
         due("hers", x.byHand(1, 83, 1), 3);
+        due("used once", told("c09000;").byHand(0, 14, 0), 2);
+        due("the first day counts", new JealousByCalendar().byHand(0, 0, 0), 1);
+        due("on DAY 0", new JealousByCalendar().byHand(0, 83, 1), 0);
+        // DAY 0 takes 2 (to 4), DAY 7 takes 0 (to 9), so DAY 14 has 1 (to 14).
+        due("soonest, not the least", told("c04000;c09000;c23000;").byHand(0, 14, 0), 0);
+        due("soonest, not the last", told("c23000;c04000;c09000;").byHand(0, 14, 0), 0);
         due("byHand(2, -1, 2)", x.byHand(2, -1, 2), -1);
         due("byHand(0, -1, 2)", x.byHand(0, -1, 2), -4);
         due("byHand(0, 84, 2)", x.byHand(0, 84, 2), -6);
@@ -417,6 +426,7 @@ public final class PromiseTest {
         due("the first", x.quarrel(83, 1), 7);
         due("none", x.quarrel(6, 0), 0);
         due("none", x.quarrel(6, 1), -9);
+        due("on DAY itself", told("c39000;c39100;w10;").quarrel(0, 0), 1);
         due("quarrel(-1, 2)", x.quarrel(-1, 2), -4);
         due("quarrel(84, 2)", x.quarrel(84, 2), -6);
         due("quarrel(83, 2)", x.quarrel(83, 2), -2);
@@ -430,6 +440,7 @@ public final class PromiseTest {
         due("wasted", x.wasted(0, 14), 2 + 8 + 16);
         due("all found later", x.wasted(0, 6), 58);
         due("not for her", x.wasted(1, 83), 4);
+        due("number 0", told("c37000;c39000;").wasted(0, 0), 1);
         due("wasted(2, -1)", x.wasted(2, -1), -1);
         due("wasted(0, -1)", x.wasted(0, -1), -4);
         due("wasted(0, 84)", x.wasted(0, 84), -6);
@@ -454,6 +465,7 @@ public final class PromiseTest {
         due("one", x.notAll(0, 14), 3);
         due("one day of none", x.notAll(0, 21), 8);
         due("none", x.notAll(0, 0), -9);
+        due("DAY 0", new JealousByCalendar().notAll(0, 83), 1);
         due("none needed", x.notAll(1, 2), -9);
         x = told("c39000;c39007;c39014;c39021;c39028;c39035;c39042;c39049;");
         due("of the first eight none", x.notAll(0, 83), -9);
@@ -465,6 +477,7 @@ public final class PromiseTest {
         x = told("c39000;c39000;c39003;c39103;c39103;c38103;");
         due("bits", x.spare(83, 0), 1 + 4 + 8 + 32);
         due("how many", x.spare(83, 1), 4);
+        due("to DAY 0 alone", x.spare(0, 0), 1 + 4 + 8 + 16 + 32);
         due("spare(-1, 2)", x.spare(-1, 2), -4);
         due("spare(84, 2)", x.spare(84, 2), -6);
         due("spare(83, 2)", x.spare(83, 2), -2);
@@ -482,6 +495,8 @@ public final class PromiseTest {
         x = told("d4;c00000;");
         due("from DAY on", x.over(0), 4);
         due("none", x.over(1), -9);
+        due("on DAY itself", told("c39000;").over(1), 0);
+        due("from the next on", told("c39000;").over(0), 1);
     }
 
     private static void weekdays() {
@@ -507,6 +522,9 @@ public final class PromiseTest {
         due("bestWeekday(0, -1)", x.bestWeekday(0, -1), -4);
         due("bestWeekday(0, 84)", x.bestWeekday(0, 84), -6);
         due("the best", told("c09000;c39002;").bestWeekday(0, 20), 2);
+        due("0 is the best", told("c39000;").bestWeekday(0, 20), 0);
+        due("1 is the best", told("c39001;").bestWeekday(0, 20), 1);
+        due("the best in the middle", told("c35001;c39002;c37003;").bestWeekday(0, 20), 2);
 
         promise = 19;
         due("nothing: the first two that are not alike", new JealousByCalendar().neither(83), 1);
@@ -515,6 +533,10 @@ public final class PromiseTest {
         // He has 5 on DAY 0 alone, she too: alike would be less 10 for both.
         due("alike costs", told("c39000;c39100;").neither(0), 1);
         // Worth more than 10: both stay.
+        due("alike on 0 costs: he has more on 0, she on 1", told("c39000;c39101;c39100;").neither(20), 1);
+        due("each his own", told("c39002;c39105;").neither(20), 25);
+        // 0 his and 3 hers: either would be alike by taking what is best for him.
+        due("neither his own", told("c39003;c39100;").neither(20), 3);
         due("alike all the same", told("c49000;w01;w11;c49100;c49000;c49100;").neither(0), 0);
         due("neither(-1)", x.neither(-1), -4);
         due("neither(84)", x.neither(84), -6);
@@ -527,6 +549,9 @@ public final class PromiseTest {
         due("five", x.months(4, 31, 1), 5);
         due("in one", x.months(4, 31, 0), 1);
         due("the second", x.months(4, 31, 2), 1);
+        // Four whole months of 17: 0 7 14, 21 28, 35 42 49, 56 63; a fifth would end on 84.
+        due("whole ones", x.months(0, 17, 0), 2);
+        due("the first day counts", x.months(0, 7, 1), 1);
         due("months(7, 6, 3)", x.months(7, 6, 3), -1);
         due("months(-1, 7, 0)", x.months(-1, 7, 0), -1);
         due("months(0, 6, 3)", x.months(0, 6, 3), -4);
@@ -537,6 +562,8 @@ public final class PromiseTest {
         promise = 36;
         x = told("c39000;c39103;");
         due("both lose", x.swapped(83), -2010);
+        x.run(0, 83, 0);
+        due("from now again", x.swapped(83), -2010);
         x = told("c39003;c38003;c39100;");
         due("both win", x.swapped(83), 2010);
         due("his alone", x.swapped(2), 1005);
@@ -553,6 +580,8 @@ public final class PromiseTest {
         due("3 first is as good", x.turns(1), 0);
         x = told("c02000;c04100;");
         due("hers too", x.turns(0), 2);
+        due("5, 6, 4", told("c04000;c05000;c03000;").turns(0), 5);
+        due("6 is best", told("c04000;c05000;c03000;").turns(1), 1);
         due("the heavier", x.turns(1), 1);
         x = new JealousByCalendar();
         due("none", x.turns(0), 0);
@@ -611,6 +640,8 @@ public final class PromiseTest {
         due("another weekday", x.meant(0, 0), LONG + 3);
         row(x, 7, 7);
         due("does not rise", x.meant(0, 0), LONG + 3);
+        row(x, 83);
+        due("83 is a day", told("w06;").meant(0, 0), 1);
         row(x, 84);
         due("above 83", x.meant(0, 0), LONG + 3);
         row(x, 0, 7, 14, 21, 28, 35, 42, 49, 56);
@@ -648,6 +679,9 @@ public final class PromiseTest {
         due("one friend", x.friends(0), 1);
         row(x, 0, 6);
         due("6 is ahead of 0", x.friends(0), 2);
+        row(x, 0, 1, 0);
+        due("0 and 1", x.friends(0), 3);
+        row(x, 0, 6);
         row(x, 0, 1, 2, 3, 4, 5, 6);
         due("an odd ring", x.friends(0), 3);
         due("the least", x.friends(1), 0);
@@ -666,6 +700,8 @@ public final class PromiseTest {
         due("the row is gone", x.count(5), 0);
         row(x, 2, 3);
         due("the second", x.judge(0), 1);
+        row(x, 3, 2);
+        due("the first", x.judge(0), 0);
         due("the row is gone", x.count(5), 0);
         row(x, 50);
         due("nobody", x.judge(2), -1);
@@ -698,6 +734,8 @@ public final class PromiseTest {
         due("one in four", x.keep(4), 3);
         due("one in 17", x.keep(17), 12);
         due("one in 18", x.keep(18), -9);
+        due("one in 20", x.keep(20), -9);
+        due("20 is not too much", x.chance(20, 1, 1), 20);
         due("keep(1)", x.keep(1), -4);
         due("keep(21)", x.keep(21), -6);
     }
@@ -711,6 +749,7 @@ public final class PromiseTest {
         due("on DAY 10 he pays", x.run(1, 11, 0), 10);
         due("on DAY 3 she borrowed", x.run(1, 11, 1), 1);
         due("on DAY 7 he paid 3", x.run(0, 11, 0), 70 - 3 - 10);
+        due("from now again", x.run(0, 0, 0), 50);
         due("nothing is done", x.count(1) + x.count(2), 0);
         due("run(2, -1, 3)", x.run(2, -1, 3), -1);
         due("run(0, -1, 3)", x.run(0, -1, 3), -4);
@@ -723,6 +762,8 @@ public final class PromiseTest {
         due("soonest sour", x.usedOn(0, 0), 1);
         due("then none", x.usedOn(0, 7), -9);
         due("not his day", x.usedOn(0, 83), -9);
+        due("number 0", told("c20000;c09000;").usedOn(0, 0), 0);
+        due("of two alike the least", told("d1;c04000;c00004;").usedOn(0, 7), 0);
         x.set(0, 0, 6);
         due("the last day", x.usedOn(0, 83), 2);
         due("usedOn(-1, -1)", x.usedOn(-1, -1), -1);
@@ -737,6 +778,12 @@ public final class PromiseTest {
         due("on DAY 1 ten, on DAY 8 ten and two fines", x.need(0, 83), 26);
         due("not yet", x.need(0, 1), 0);
         due("hers", x.need(1, 83), 0);
+        due("from now again", x.need(0, 83), 26);
+        due("what he was paid", told("c09000;c09103;").need(0, 83), 0);
+        // She pays 3 on DAY 3 and has none for DAY 7; he pays 3 on DAY 0 and 10 on DAY 10.
+        due("her fine", told("p1003;c09007;c09110;").need(0, 83), 13);
+        // He pays 3 and 10, she pays the 10 back on DAY 7, and he again on DAY 10.
+        due("there and back", told("p1000;c39103;c39007;c39110;").need(0, 83), 8);
         x = told("c09100;w11;p1990;");
         due("she can not hold it", x.need(0, 83), -9);
         due("need(2, -1)", x.need(2, -1), -1);
@@ -768,6 +815,11 @@ public final class PromiseTest {
         // LENT is good on its day alone: 38 is of weekday 3.
         due("hers on 38", told("c39100;").lots(1, 1), 23);
         due("his not on 38", told("c39000;").lots(1, 1), 24);
+        due("the first draw of 0 is 0", told("c39000;").lots(1, 0), 23);
+        // From 1: 38 (weekday 3), then 46 (weekday 4).
+        due("in both years", told("c09000;").lots(2, 1), 46);
+        due("two draws in one year", told("c39100;c39002;w04;").lots(1, 1), 22);
+        due("hers in the first year alone", told("c39100;").lots(2, 1), 47);
         due("lots(0, 1)", x.lots(0, 1), -4);
         due("lots(21, 1)", x.lots(21, 1), -6);
         due("lots(20, least)", x.lots(20, LEAST), 480);
@@ -788,6 +840,7 @@ public final class PromiseTest {
         promise = 29;
         due("the first of the best", x.when(0, 0, 0, 20), 2);
         due("LENT", x.when(0, 3, 0, 83), 7);
+        due("n itself", x.when(0, 3, 0, 7), 7);
         due("none", x.when(0, 3, 0, 6), -9);
         due("when(2, 6, -1, -1)", x.when(2, 6, -1, -1), -1);
         due("when(0, 6, -1, -1)", x.when(0, 6, -1, -1), -2);
@@ -804,6 +857,9 @@ public final class PromiseTest {
         promise = 30;
         x = told("c39103;c39100;c39107;");
         due("hers on his days, the first", x.changed(83), 1);
+        due("number 0", told("c39100;").changed(83), 0);
+        x.run(0, 83, 0);
+        due("from now again", x.changed(83), 1);
         due("none", told("c39000;").changed(83), -9);
         due("none till 2", told("c39000;").changed(2), -9);
         due("changed(-1)", x.changed(-1), -4);
@@ -815,6 +871,10 @@ public final class PromiseTest {
         due("14 later", x.delay(0, 20), 14);
         due("7 later", x.delay(0, 13), 7);
         due("hers are none", x.delay(1, 20), 20);
+        due("none", told("c39000;").delay(0, 6), 0);
+        due("one", told("c00102;").delay(1, 9), 1);
+        due("n less DAY", told("d5;").delay(0, 20), 15);
+        due("from DAY 5", told("d5;c09005;").delay(0, 20), 9);
         x = told("c39000;c39007;");
         due("both on DAYS of his: 70", x.delay(0, 83), 70);
         x = told("c39082;w06;");
@@ -832,6 +892,8 @@ public final class PromiseTest {
         due("hers and one", x.loss(83, 1), 203);
         due("to DAY 0", x.loss(0, 0), 0);
         due("both of DAY 0", x.loss(0, 1), 1);
+        due("of several the least", told("c39000;c39007;c39014;").loss(83, 0), 0);
+        due("of several the least two", told("c39000;c39007;c39014;").loss(83, 1), 1);
         due("one is left", told("c39000;").loss(83, 1), -9);
         due("none", new JealousByCalendar().loss(83, 0), -9);
         due("loss(-1, 2)", x.loss(-1, 2), -4);
