@@ -535,6 +535,9 @@ public final class PromiseTest {
         // Worth more than 10: both stay.
         due("alike on 0 costs: he has more on 0, she on 1", told("c39000;c39101;c39100;").neither(20), 1);
         due("each his own", told("c39002;c39105;").neither(20), 25);
+        due("9 is not worth 10", told("c08000;c08100;").neither(0), 1);
+        due("10 is", told("c09000;c09100;").neither(0), 0);
+        due("she would go to 0", told("c39100;c39107;c39114;").neither(20), 10);
         // 0 his and 3 hers: either would be alike by taking what is best for him.
         due("neither his own", told("c39003;c39100;").neither(20), 3);
         due("alike all the same", told("c49000;w01;w11;c49100;c49000;c49100;").neither(0), 0);
@@ -565,6 +568,7 @@ public final class PromiseTest {
         x.run(0, 83, 0);
         due("from now again", x.swapped(83), -2010);
         x = told("c39003;c38003;c39100;");
+        x.run(0, 83, 0);
         due("both win", x.swapped(83), 2010);
         due("his alone", x.swapped(2), 1005);
         due("swapped(-1)", x.swapped(-1), FAR + 4);
@@ -605,6 +609,10 @@ public final class PromiseTest {
         due("the least bits", x.alike(1), 3);
         due("a single one", told("c05000;").alike(0), 6);
         due("is the first heap", told("c05000;").alike(1), 1);
+        due("9 10 1", told("c08000;c09000;c00000;").alike(0), 0);
+        due("9 and 1 against 10", told("c08000;c09000;c00000;").alike(1), 5);
+        due("0 against 10", told("c30000;c09000;").alike(0), 10);
+        due("0 weighs nothing, the least bits", told("c30000;c09000;").alike(1), 1);
     }
 
     private static void rows() {
@@ -641,7 +649,9 @@ public final class PromiseTest {
         row(x, 7, 7);
         due("does not rise", x.meant(0, 0), LONG + 3);
         row(x, 83);
-        due("83 is a day", told("w06;").meant(0, 0), 1);
+        x.set(0, 0, 6);
+        due("83 is a day", x.meant(0, 0), 0);
+        x.set(0, 0, 0);
         row(x, 84);
         due("above 83", x.meant(0, 0), LONG + 3);
         row(x, 0, 7, 14, 21, 28, 35, 42, 49, 56);
@@ -701,6 +711,7 @@ public final class PromiseTest {
         row(x, 2, 3);
         due("the second", x.judge(0), 1);
         row(x, 3, 2);
+        x.run(0, 83, 0);
         due("the first", x.judge(0), 0);
         due("the row is gone", x.count(5), 0);
         row(x, 50);
@@ -784,6 +795,11 @@ public final class PromiseTest {
         due("her fine", told("p1003;c09007;c09110;").need(0, 83), 13);
         // He pays 3 and 10, she pays the 10 back on DAY 7, and he again on DAY 10.
         due("there and back", told("p1000;c39103;c39007;c39110;").need(0, 83), 8);
+        due("at the end of all twelve weeks", told("c49180;").need(0, 83), 12 * 3 + 29);
+        x = told("c09100;w10;");
+        due("on DAY", x.need(0, 83), 10);
+        x.use(0);
+        due("no more of it", x.need(0, 83), 0);
         x = told("c09100;w11;p1990;");
         due("she can not hold it", x.need(0, 83), -9);
         due("need(2, -1)", x.need(2, -1), -1);
