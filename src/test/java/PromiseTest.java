@@ -668,6 +668,10 @@ public final class PromiseTest {
         due("in some all", x.meant(0, 2), 4095);
         x.use(3);
         due("not the used one", x.meant(0, 0), 332640);
+        x = told("c39000;c39007;c39014;c39021;c39028;c39035;c39042;c39049;c39056;");
+        row(x, 0, 7, 14, 21, 28, 35, 42, 49);
+        due("one for each of the eight", x.meant(0, 0), 1);
+        due("all but the ninth", x.meant(0, 1), 255);
 
         promise = 23;
         x = new JealousByCalendar();
