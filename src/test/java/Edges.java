@@ -9,10 +9,9 @@ import java.util.Arrays;
 import java.util.HashMap;
 import java.util.List;
 import java.util.Map;
-import java.util.Set;
-import java.util.TreeSet;
 import java.util.function.Supplier;
 import java.util.regex.Pattern;
+import java.util.stream.Collectors;
 
 /**
  * What the tests of the document's edges share. Each test is of one promise and one sentence; the sentence must stand
@@ -31,7 +30,7 @@ class Edges {
     private static final Map<String, Method> CALLS = new HashMap<>();
     private static String document = "";
     private static boolean[] covered = {};
-    private static final Set<Integer> promises = new TreeSet<>();
+    private static final int[] testsOf = new int[PROMISES + 1];
     private static String place = "";
     private static int tests;
     private static int asked;
@@ -49,7 +48,7 @@ class Edges {
     static void edge(int promise, String sentence, Runnable test) {
         place = "promise " + promise + ", \"" + sentence + "\": ";
         tests++;
-        promises.add(promise);
+        testsOf[promise]++;
         if (!cover(promise, sentence)) fault("does not stand in the document");
         int before = asked;
         try {
@@ -104,8 +103,9 @@ class Edges {
         }
         for (int p = 1; p <= PROMISES; p++) {
             place = "promise " + p + ": ";
-            if (!promises.contains(p)) fault("no test is of it");
+            if (testsOf[p] == 0) fault("no test is of it");
         }
+        System.out.println("tests of the promises 1 .. 48: " + Arrays.stream(testsOf).skip(1).mapToObj(String::valueOf).collect(Collectors.joining(" ")));
         System.out.println(tests + " edges looked at, " + asked + " answers asked for, " + wrong + " not as due");
         if (wrong != 0) System.exit(1);
     }

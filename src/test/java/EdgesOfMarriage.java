@@ -251,6 +251,18 @@ final class EdgesOfMarriage extends Edges {
             due(x, "one(0, 1)", 783);
             due(x, "one(1, 3)", 20);
         });
+        edge(3, "Without FAULT all of it comes", () -> {
+            // It comes to what is now, not to what was thought of or told before.
+            JealousByCalendar x = told("c09000;c09007;");
+            does(x, "use(0)", "run(0, 83, 0)", "lots(20, 1)");
+            due("a FAULT", tell(x, "d3;c00000;u00;"), -2010);
+            due("all", tell(x, "d7;u01;"), 2);
+            due(x, "count(1)", 7);
+            due(x, "count(0)", 2);
+            due(x, "count(2)", 3);
+            due(x, "one(0, 1)", 70);
+            due(x, "cause(1, 3)", 7);
+        });
         edge(3, "how many STATEMENTS", () -> {
             answers("", "d0;", 1);
             answers("", "d0;".repeat(32), 32);

@@ -342,6 +342,10 @@ final class EdgesOfNumbers extends Edges {
             due(rowed("", 50, 50, 50, 47), "judge(1)", -9);
             due(rowed("c49000;p0010;", 39), "judge(0)", -9);
             due(rowed("c49000;p0010;", 21), "judge(1)", -9);
+            // From now, whatever was asked ahead of it.
+            JealousByCalendar x = rowed("", 47, 47);
+            does(x, "lots(20, 1)", "run(0, 83, 0)");
+            due(x, "judge(0)", -9);
             // DAY 83 is the last: what is told of a DAY behind it is not so.
             due(rowed(days(82), 14), "judge(0)", -9);
             due(rowed(days(82), 14, 14), "judge(0)", 1);

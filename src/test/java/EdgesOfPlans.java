@@ -49,14 +49,18 @@ final class EdgesOfPlans extends Edges {
         });
         edge(11, "in mind, by CAUSES not USED", () -> {
             // Whatever was asked ahead of it, of more or other CAUSES, a question is answered as on a new object.
-            String[] texts = {"", "c39000;", "c09000;c09103;", "w02;p0012;p1985;c49002;c09100;c19105;c38104;d2;", "w10;c29000;c59107;c00000;c49100;u03;"};
+            String[] texts = {"", "c39000;", "c39100;", "c09000;c09103;", "w02;p0012;p1985;c49002;c09100;c19105;c38104;d2;", "w10;c29000;c59107;c00000;c49100;u03;"};
             for (String text : texts) {
                 JealousByCalendar x = told(text);
                 does(x, "image()");
                 grow(x);
                 for (String call : QUESTIONS) ask(x, call);
                 does(x, "restore()");
-                for (String call : QUESTIONS) due(x, call, ask(told(text), call));
+                for (String call : QUESTIONS) {
+                    // In mind it is DAY 83 then, each is FOUND elsewhere.
+                    ask(x, "lots(20, 1)");
+                    due(x, call, ask(told(text), call));
+                }
                 for (int i = QUESTIONS.length - 1; i >= 0; i--) due(x, QUESTIONS[i], ask(told(text), QUESTIONS[i]));
             }
         });
