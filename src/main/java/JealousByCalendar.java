@@ -1482,6 +1482,7 @@ public final class JealousByCalendar {
             for (int c = 0; c < MOST_CAUSES; c++) {
                 byNumber[c] = new Choice();
                 byNumber[c].number = c;
+                byWeight[c] = byNumber[c];
             }
         }
 

@@ -42,7 +42,9 @@ public final class LanguageTest {
             lookAtClass(inside, names);
         }
         must(classes <= 12, "twelve classes at most");
-        lookAtText(Files.readString(Path.of(args.length > 0 ? args[0] : "src/main/java/JealousByCalendar.java")));
+        String text = Files.readString(Path.of(args.length > 0 ? args[0] : "src/main/java/JealousByCalendar.java"));
+        lookAtText(text);
+        lookForGaps(new JealousByCalendar(), text);
         System.out.println(classes + " classes looked at, " + wrong + " rules broken");
         if (wrong != 0) System.exit(1);
     }
@@ -76,6 +78,25 @@ public final class LanguageTest {
             must(m.getParameterCount() <= 7, m + " takes seven at most");
             must(Modifier.isPublic(m.getModifiers()) || !names.contains(m.getName()), m + " bears no public name");
             must(!m.isSynthetic(), m + " is no lambda");
+        }
+    }
+
+    /** Rule 7: what a row of objects may lack is looked at against null, so nothing is taken of it in the same step. */
+    private static void lookForGaps(Object thing, String text) throws IllegalAccessException {
+        for (Field f : thing.getClass().getDeclaredFields()) {
+            if (Modifier.isStatic(f.getModifiers())) continue;
+            f.setAccessible(true);
+            Object held = f.get(thing);
+            if (held instanceof Object[]) {
+                boolean hasGaps = Arrays.asList((Object[]) held).contains(null);
+                boolean isTaken = Pattern.compile("\\b" + f.getName() + "\\[[^\\]]*\\]\\.").matcher(text).find();
+                must(!hasGaps || !isTaken, f.getName() + " may hold null, so nothing is taken of it unlooked at");
+                for (Object each : (Object[]) held) {
+                    if (each != null) lookForGaps(each, text);
+                }
+            } else if (held != null && held.getClass().getName().startsWith(JealousByCalendar.class.getName())) {
+                lookForGaps(held, text);
+            }
         }
     }
 
